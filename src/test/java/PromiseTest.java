@@ -146,14 +146,17 @@ public final class PromiseTest {
     run();
     runCallsEveryCommand();
     errorPositions();
+    staleText();
     failedCommand();
     describeRow();
     meanBatteryBits();
     meanDistance();
     isConsistent();
+    fullHouse();
     undo();
     undoOfEveryChange();
     undoLeavesAlone();
+    blockedTotalsAreUndoneAndRestored();
     saveAndRestore();
     System.out.println(checks + " checks, " + wrong + " wrong");
     if (wrong != 0) {
@@ -702,6 +705,13 @@ public final class PromiseTest {
     show.sendTo(0, 0);
     due(30, "the next cell counts, not the target", show.conflictCount(), 4);
     due(31, "the next cell counts, not the target", show.conflictCountByCell(), 4);
+    DroneLightShow ends = withFlying(1, 8, 62, 55);
+    type(ends, "send 0 0;send 1 0;send 2 63;send 3 63");
+    ends.run();
+    for (int k = 0; k < 3; k++) {
+      due(30, "a pair at either end", ends.conflictCount(), 2);
+      due(31, "a pair at either end", ends.conflictCountByCell(), 2);
+    }
   }
 
   private static void ranks() {
@@ -1037,6 +1047,78 @@ public final class PromiseTest {
       due(47, "one drone", low.meanBatteryBits(), Float.floatToIntBits((float) low.battery(0)));
     }
     due(47, "an empty battery", low.battery(0) + " " + low.meanBatteryBits(), "0 0");
+    meanOfTheLast();
+  }
+
+  /** Ten drones whose batteries end one after the other: all means from 10 down to 0. */
+  private static void meanOfTheLast() {
+    DroneLightShow show = withFlying(0, 1, 2, 3, 4, 5, 6, 7, 8, 9);
+    show.addPad(63);
+    show.addPad(62);
+    show.addPad(61);
+    show.addPad(60);
+    for (int tick = 1; tick <= 100; tick++) {
+      show.advance(1);
+      int sum = 0;
+      for (int d = 0; d < 10; d++) {
+        sum += show.battery(d);
+      }
+      due(47, "ten drones", show.meanBatteryBits(), Float.floatToIntBits((float) sum / 10f));
+    }
+  }
+
+  /** With ten drones and ten cells every row of the program is full. */
+  private static void fullHouse() {
+    DroneLightShow show = withFlying(0, 1, 2, 3, 4, 5, 6, 7, 8, 9);
+    for (int cell = 54; cell < 64; cell++) {
+      show.addToFormation(0, cell);
+    }
+    due(21, "assign of ten", show.assign(0), 10);
+    due(23, "occupiedMask of ten", show.occupiedMask(), 1023L);
+    due(30, "conflictCount of ten", show.conflictCount(), 0);
+    due(31, "conflictCountByCell of ten", show.conflictCountByCell(), 0);
+    due(32, "ranks of ten", ranking(show), "0 1 2 3 4 5 6 7 8 9 ");
+    due(47, "meanBatteryBits of ten", show.meanBatteryBits(), Float.floatToIntBits(100f));
+    due(48, "meanDistance of ten", show.meanDistance() > 6.0, true);
+    due(49, "isConsistent of ten", show.isConsistent(), true);
+    due(15, "droneAt of ten", show.droneAt(9), 9);
+    fails(15, "droneAt a free cell", MISSING, () -> show.droneAt(10));
+    show.advance(30);
+    due(24, "matchCount of ten", show.matchCount(0), show.matchCountByScan(0));
+    due(26, "coverage of ten", show.coverage(0), (float) show.matchCount(0) / 10f);
+  }
+
+  private static void blockedTotalsAreUndoneAndRestored() {
+    DroneLightShow show = withFlying(0, 1);
+    show.sendTo(0, 2);
+    show.advance(3);
+    show.save();
+    show.advance(4);
+    due(38, "blockedTotal", show.blockedTotal(), 7);
+    show.undo();
+    due(50, "blockedTotal is undone", show.blockedTotal(), 3);
+    show.advance(1);
+    show.restore();
+    due(52, "blockedTotal is restored", show.blockedTotal(), 3);
+  }
+
+  /** What an earlier, longer text left in the buffer must not continue a later one. */
+  private static void staleText() {
+    staleAfter("add 12", "ad", 2);
+    staleAfter("add 12", "add ", 4);
+    staleAfter("add 1;add 2", "add 1;", 6);
+    staleAfter("add 1;off 0;send 0 23", "send 0", 6);
+    staleAfter("add 1;off 0;send 0 23", "add 1;off 0;send 0", 18);
+    staleAfter("add 1;off 0;send 0 23", "add 1;off 0;send 0 ", 19);
+  }
+
+  private static void staleAfter(String good, String bad, int want) {
+    DroneLightShow show = new DroneLightShow();
+    type(show, good);
+    show.run();
+    type(show, bad);
+    fails(42, "run of \"" + bad + "\" after \"" + good + "\"", ARGUMENT, show::run);
+    due(43, "errorPosition of \"" + bad + "\" after \"" + good + "\"", show.errorPosition(), want);
   }
 
   private static void meanDistance() {
