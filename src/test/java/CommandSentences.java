@@ -121,6 +121,15 @@ final class CommandSentences {
         });
   }
 
+  /** No character of a text that was run continues the one that is run after it. */
+  private static void leftOver(String first, String second, int position) {
+    DroneLightShow show = new DroneLightShow();
+    Sheet.outcome(show, s -> Sheet.runText(s, first));
+    String what = "\"" + second + "\" after \"" + first + "\"";
+    Sheet.next("run of " + what, show, "throws." + Sheet.ARGUMENT, s -> Sheet.runText(s, second));
+    Sheet.due("the error position of " + what, show.errorPosition(), position);
+  }
+
   private static int cellOfFirst(DroneLightShow show) {
     show.run();
     return show.cellOf(0);
@@ -358,6 +367,17 @@ final class CommandSentences {
             Sheet.due("append", show.append('c'), 1);
             Sheet.due("a text of its own", Sheet.runText(show, "lear 0"), 1);
           }
+          leftOver("add 12", "ad", 2);
+          leftOver("add 12", "add ", 4);
+          leftOver("add 1;add 2", "add 1;", 6);
+          leftOver("add 1;off 0;send 0 23", "add 3;off 1;send 1", 18);
+          leftOver("add 1;off 0;send 0 23", "add 3;off 1;send 1 ", 19);
+          leftOver("add 64;add 12", "add 64;", 7);
+          leftOver("add 1;add 2;", "add 1;add", 9);
+          leftOver(SIXTY, SIXTY.substring(0, 57), 57);
+          DroneLightShow digits = Sheet.with(Sheet.typed("add 12"), DroneLightShow::run).make();
+          Sheet.next("a number that is shorter", digits, 1, s -> Sheet.runText(s, "add 1"));
+          Sheet.due("its cell", digits.cellOf(1), 1);
         });
     Sheet.sentence(
         42,

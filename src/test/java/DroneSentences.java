@@ -328,8 +328,9 @@ final class DroneSentences {
   }
 
   private static void undoAll(DroneLightShow show) {
-    while (show.undo() > 0) {
-      // undo is all that is done
+    int changes = show.undo();
+    for (int change = 0; change < changes && change < 8; change++) {
+      show.undo();
     }
   }
 
