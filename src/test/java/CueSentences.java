@@ -13,10 +13,6 @@ final class CueSentences {
     forcedTotal();
   }
 
-  private static Sheet.Setup after(int ticks, Sheet.Setup setup) {
-    return Sheet.with(setup, show -> Sheet.ticks(show, ticks));
-  }
-
   /** A grounded drone with so many pending cues, the first at the time 1, the next at 2. */
   private static Sheet.Setup cued(int count) {
     return Sheet.with(
@@ -35,12 +31,12 @@ final class CueSentences {
         () -> {
           Sheet.Setup one = Sheet.with(Sheet.drones(9), s -> s.cueColour(0, 2, 5));
           Sheet.answers("at once", 0, one, s -> s.colour(0));
-          Sheet.answers("a tick before", 0, after(1, one), s -> s.colour(0));
-          Sheet.answers("at the time", 5, after(2, one), s -> s.colour(0));
+          Sheet.answers("a tick before", 0, Sheet.after(1, one), s -> s.colour(0));
+          Sheet.answers("at the time", 5, Sheet.after(2, one), s -> s.colour(0));
           Sheet.Setup twice = Sheet.with(one, s -> s.cueColour(0, 2, 5));
           Sheet.answers("the same cue twice", 2, twice, DroneLightShow::cueCount);
           Sheet.Setup flying = Sheet.with(Sheet.flying(9), s -> s.cueColour(0, 1, 3));
-          Sheet.answers("of a flying drone", 3, after(1, flying), s -> s.colour(0));
+          Sheet.answers("of a flying drone", 3, Sheet.after(1, flying), s -> s.colour(0));
         });
     Sheet.sentence(
         34,
@@ -49,7 +45,7 @@ final class CueSentences {
           String[] want = {"700", "070", "007"};
           for (int drone = 0; drone < 3; drone++) {
             int number = drone;
-            Sheet.Setup set = after(1, Sheet.with(Sheet.drones(1, 2, 3), s -> s.cueColour(number, 1, 7)));
+            Sheet.Setup set = Sheet.after(1, Sheet.with(Sheet.drones(1, 2, 3), s -> s.cueColour(number, 1, 7)));
             Sheet.answers("of " + drone, want[drone], set, s -> "" + s.colour(0) + s.colour(1) + s.colour(2));
           }
         });
@@ -77,8 +73,8 @@ final class CueSentences {
           for (int count : new int[] {0, 1, 10, 11}) {
             Sheet.answers("with " + count, count + 1, cued(count), s -> s.cueColour(0, 50, 1));
           }
-          Sheet.answers("after the first of two", 2, after(1, cued(2)), s -> s.cueColour(0, 50, 1));
-          Sheet.answers("after both", 1, after(2, cued(2)), s -> s.cueColour(0, 50, 1));
+          Sheet.answers("after the first of two", 2, Sheet.after(1, cued(2)), s -> s.cueColour(0, 50, 1));
+          Sheet.answers("after both", 1, Sheet.after(2, cued(2)), s -> s.cueColour(0, 50, 1));
         });
   }
 
@@ -88,15 +84,15 @@ final class CueSentences {
         "Throws `IllegalArgumentException` if the time is not greater than the current time, is greater than 999, or the colour is not from 0 to 7",
         () -> {
           for (int now : new int[] {0, 1, 30}) {
-            Sheet.Setup at = after(now, Sheet.drones(9));
+            Sheet.Setup at = Sheet.after(now, Sheet.drones(9));
             Sheet.refusals(Sheet.ARGUMENT, at, (s, n) -> s.cueColour(0, n, 1), now - 1, now, Sheet.MIN);
             Sheet.answers("the next time", 1, at, s -> s.cueColour(0, now + 1, 1));
           }
           Sheet.range(1, 999, n -> 1, Sheet.ARGUMENT, Sheet.drones(9), (s, n) -> s.cueColour(0, n, 1));
-          Sheet.Setup late = after(998, Sheet.drones(9));
+          Sheet.Setup late = Sheet.after(998, Sheet.drones(9));
           Sheet.answers("999 at 998", 1, late, s -> s.cueColour(0, 999, 1));
           Sheet.refusals(Sheet.ARGUMENT, late, (s, n) -> s.cueColour(0, n, 1), 998, 1000);
-          Sheet.Setup end = after(999, Sheet.drones(9));
+          Sheet.Setup end = Sheet.after(999, Sheet.drones(9));
           Sheet.refusals(Sheet.ARGUMENT, end, (s, n) -> s.cueColour(0, n, 1), 999, 1000, 1001);
           Sheet.refusals(Sheet.ARGUMENT, Sheet.drones(9), (s, n) -> s.cueColour(0, 1, n), -1, 8, Sheet.MAX);
           Sheet.refusals(Sheet.ARGUMENT, cued(12), (s, n) -> s.cueColour(0, n, 1), 0, 1000);
@@ -109,7 +105,7 @@ final class CueSentences {
           Sheet.answers("with 10", 11, cued(10), s -> s.cueColour(0, 50, 1));
           Sheet.answers("with 11", 12, cued(11), s -> s.cueColour(0, 50, 1));
           Sheet.refused("with 12", Sheet.STATE, cued(12), s -> s.cueColour(0, 50, 1));
-          Sheet.answers("when the first is done", 12, after(1, cued(12)), s -> s.cueColour(0, 50, 1));
+          Sheet.answers("when the first is done", 12, Sheet.after(1, cued(12)), s -> s.cueColour(0, 50, 1));
           Sheet.answers("with 11 after undo", 12, Sheet.with(cued(12), DroneLightShow::undo), s -> s.cueColour(0, 50, 1));
         });
   }
@@ -138,7 +134,7 @@ final class CueSentences {
         () -> {
           Sheet.Setup alike = Sheet.with(cued(1), s -> s.cueColour(0, 1, 1));
           Sheet.answers("two alike", 2, alike, DroneLightShow::cueCount);
-          Sheet.answers("two alike, done", 0, after(1, alike), DroneLightShow::cueCount);
+          Sheet.answers("two alike, done", 0, Sheet.after(1, alike), DroneLightShow::cueCount);
           Sheet.answers("undone", 1, Sheet.with(alike, DroneLightShow::undo), DroneLightShow::cueCount);
         });
   }
@@ -175,8 +171,8 @@ final class CueSentences {
         () -> {
           Sheet.refused("never one", Sheet.MISSING, Sheet.drones(9), DroneLightShow::nextCueTime);
           Sheet.answers("one", 1, cued(1), DroneLightShow::nextCueTime);
-          Sheet.answers("a tick before the last", 2, after(1, cued(2)), DroneLightShow::nextCueTime);
-          Sheet.refused("none any more", Sheet.MISSING, after(2, cued(2)), DroneLightShow::nextCueTime);
+          Sheet.answers("a tick before the last", 2, Sheet.after(1, cued(2)), DroneLightShow::nextCueTime);
+          Sheet.refused("none any more", Sheet.MISSING, Sheet.after(2, cued(2)), DroneLightShow::nextCueTime);
           Sheet.Setup undone = Sheet.with(cued(1), DroneLightShow::undo);
           Sheet.refused("none after undo", Sheet.MISSING, undone, DroneLightShow::nextCueTime);
         });
@@ -208,9 +204,9 @@ final class CueSentences {
         "Returns the number of moves.",
         () -> {
           Sheet.Setup blocked = Sheet.with(Sheet.flying(0, 1), s -> s.sendTo(0, 1));
-          Sheet.answers("not to be moved", 0, after(3, blocked), DroneLightShow::movedTotal);
+          Sheet.answers("not to be moved", 0, Sheet.after(3, blocked), DroneLightShow::movedTotal);
           Sheet.Setup aside = Sheet.with(Sheet.flying(0, 8), s -> s.sendTo(0, 9));
-          Sheet.answers("aside", 1, after(1, aside), DroneLightShow::movedTotal);
+          Sheet.answers("aside", 1, Sheet.after(1, aside), DroneLightShow::movedTotal);
           Sheet.answers("asked for the future", 0, Sheet.with(aside, s -> s.batteryAfter(0, 9)), DroneLightShow::movedTotal);
         });
   }
@@ -238,10 +234,10 @@ final class CueSentences {
         "Returns the number of times.",
         () -> {
           Sheet.Setup free = Sheet.with(Sheet.flying(0), s -> s.sendTo(0, 1));
-          Sheet.answers("free", 0, after(9, free), DroneLightShow::blockedTotal);
+          Sheet.answers("free", 0, Sheet.after(9, free), DroneLightShow::blockedTotal);
           Sheet.Setup later = Sheet.with(Sheet.flying(0, 2), s -> s.sendTo(0, 3));
-          Sheet.answers("free for one tick", 0, after(1, later), DroneLightShow::blockedTotal);
-          Sheet.answers("then not", 1, after(2, later), DroneLightShow::blockedTotal);
+          Sheet.answers("free for one tick", 0, Sheet.after(1, later), DroneLightShow::blockedTotal);
+          Sheet.answers("then not", 1, Sheet.after(2, later), DroneLightShow::blockedTotal);
           Sheet.answers("asked for the future", 0, Sheet.with(later, s -> s.batteryAfter(0, 9)), DroneLightShow::blockedTotal);
         });
   }
@@ -272,8 +268,8 @@ final class CueSentences {
           Sheet.answers("over a pad", 1, Sheet.emergency(0, 0), DroneLightShow::emergencyTotal);
           Sheet.answers("without pads", 0, Sheet.emergency(0), DroneLightShow::emergencyTotal);
           Sheet.Setup again = Sheet.with(Sheet.emergency(0, 0), s -> s.takeOff(0));
-          Sheet.answers("a second time", 1, after(4, again), DroneLightShow::emergencyTotal);
-          Sheet.answers("a second time, a tick later", 2, after(5, again), DroneLightShow::emergencyTotal);
+          Sheet.answers("a second time", 1, Sheet.after(4, again), DroneLightShow::emergencyTotal);
+          Sheet.answers("a second time, a tick later", 2, Sheet.after(5, again), DroneLightShow::emergencyTotal);
         });
   }
 
@@ -303,11 +299,11 @@ final class CueSentences {
           Sheet.answers("a landing in an emergency", 0, Sheet.emergency(0, 0), DroneLightShow::forcedTotal);
           Sheet.answers("without pads", 1, Sheet.emergency(0), DroneLightShow::forcedTotal);
           Sheet.Setup again = Sheet.with(Sheet.spent(10), s -> s.setReserve(9));
-          Sheet.Setup twice = after(1, Sheet.with(again, s -> s.takeOff(0)));
+          Sheet.Setup twice = Sheet.after(1, Sheet.with(again, s -> s.takeOff(0)));
           Sheet.answers("a second time", 2, twice, DroneLightShow::forcedTotal);
           Sheet.Setup starved = Sheet.with(Sheet.flyingWith(0, 6), s -> s.addPad(63));
-          Sheet.answers("1 left", 0, after(3, starved), DroneLightShow::forcedTotal);
-          Sheet.answers("0 left", 1, after(4, starved), DroneLightShow::forcedTotal);
+          Sheet.answers("1 left", 0, Sheet.after(3, starved), DroneLightShow::forcedTotal);
+          Sheet.answers("0 left", 1, Sheet.after(4, starved), DroneLightShow::forcedTotal);
         });
   }
 }

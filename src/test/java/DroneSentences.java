@@ -403,13 +403,7 @@ final class DroneSentences {
   }
 
   private static Sheet.Setup padded(int... pads) {
-    return Sheet.with(
-        Sheet.drones(),
-        show -> {
-          for (int pad : pads) {
-            show.addPad(pad);
-          }
-        });
+    return Sheet.padded(Sheet.drones(), pads);
   }
 
   private static void takeOff() {
@@ -475,16 +469,10 @@ final class DroneSentences {
         });
   }
 
-  /** So many drones over pads, as far as there are pads: the first and the last one at least. */
+  /** So many flying drones, the first and the last one over a pad. */
   private static Sheet.Setup overPads(int count) {
-    return Sheet.with(
-        Sheet.flying(Sheet.row(count)),
-        show -> {
-          show.addPad(0);
-          if (count > 1) {
-            show.addPad(count - 1);
-          }
-        });
+    Sheet.Setup one = Sheet.padded(Sheet.flying(Sheet.row(count)), 0);
+    return count == 1 ? one : Sheet.padded(one, count - 1);
   }
 
   private static void land() {

@@ -15,22 +15,12 @@ final class LineSentences {
     return Sheet.with(setup, show -> show.describeRow(row));
   }
 
-  private static Sheet.Setup padded(Sheet.Setup setup, int... pads) {
-    return Sheet.with(
-        setup,
-        show -> {
-          for (int pad : pads) {
-            show.addPad(pad);
-          }
-        });
-  }
-
   private static void describeRow() {
     Sheet.sentence(
         45,
         "Writes a row of the grid to the line, replacing its previous content.",
         () -> {
-          DroneLightShow show = padded(Sheet.drones(0, 63), 7, 56).make();
+          DroneLightShow show = Sheet.padded(Sheet.drones(0, 63), 7, 56).make();
           String[] want = {"a......_", "........", "........", "........", "........", "........", "........", "_......b"};
           for (int row : new int[] {0, 1, 7, 6, 0, 7, 5, 4, 3, 2}) {
             Sheet.due("the row " + row, Sheet.line(show, row), want[row]);
@@ -79,10 +69,10 @@ final class LineSentences {
           Sheet.answers("ten flying drones", "01234567", Sheet.flying(Sheet.row(10)), s -> Sheet.line(s, 0));
           Sheet.answers("the last two", "89......", Sheet.flying(Sheet.row(10)), s -> Sheet.line(s, 1));
           Sheet.answers("the last two, grounded", "ij......", Sheet.drones(Sheet.row(10)), s -> Sheet.line(s, 1));
-          Sheet.answers("pads", "_.....__", padded(Sheet.drones(), 0, 6, 7), s -> Sheet.line(s, 0));
-          Sheet.answers("a flying drone over a pad", "0_......", padded(Sheet.flying(0), 0, 1), s -> Sheet.line(s, 0));
-          Sheet.answers("a grounded drone on a pad", "a_......", padded(Sheet.drones(0), 0, 1), s -> Sheet.line(s, 0));
-          Sheet.Setup left = Sheet.with(padded(Sheet.flying(0), 0), s -> s.sendTo(0, 1));
+          Sheet.answers("pads", "_.....__", Sheet.padded(Sheet.drones(), 0, 6, 7), s -> Sheet.line(s, 0));
+          Sheet.answers("a flying drone over a pad", "0_......", Sheet.padded(Sheet.flying(0), 0, 1), s -> Sheet.line(s, 0));
+          Sheet.answers("a grounded drone on a pad", "a_......", Sheet.padded(Sheet.drones(0), 0, 1), s -> Sheet.line(s, 0));
+          Sheet.Setup left = Sheet.with(Sheet.padded(Sheet.flying(0), 0), s -> s.sendTo(0, 1));
           Sheet.answers("the pad is left", "_0......", Sheet.with(left, s -> s.advance(1)), s -> Sheet.line(s, 0));
           Sheet.answers("in an emergency", "0......_", Sheet.emergency(0, 7), s -> Sheet.line(s, 0));
           Sheet.answers("landed", "a.......", Sheet.emergency(0, 0), s -> Sheet.line(s, 0));
@@ -105,7 +95,7 @@ final class LineSentences {
         45,
         "An example is \"..3_.a..\".",
         () -> {
-          Sheet.Setup four = padded(Sheet.drones(5, 60, 61, 2), 3);
+          Sheet.Setup four = Sheet.padded(Sheet.drones(5, 60, 61, 2), 3);
           Sheet.answers("the example", "..3_.a..", Sheet.with(four, s -> s.takeOff(3)), s -> Sheet.line(s, 0));
         });
   }
@@ -115,7 +105,7 @@ final class LineSentences {
         46,
         "Returns a character of the line.",
         () -> {
-          Sheet.Setup example = described(padded(Sheet.drones(0, 7), 3), 0);
+          Sheet.Setup example = described(Sheet.padded(Sheet.drones(0, 7), 3), 0);
           String want = "a.._...b";
           for (int index = 0; index < 8; index++) {
             int place = index;
@@ -145,7 +135,7 @@ final class LineSentences {
         () -> {
           Sheet.answers("a digit", '0', described(Sheet.flying(0), 0), s -> s.lineAt(0));
           Sheet.answers("a letter", 'a', described(Sheet.drones(0), 0), s -> s.lineAt(0));
-          Sheet.answers("a pad", '_', described(padded(Sheet.drones(), 0), 0), s -> s.lineAt(0));
+          Sheet.answers("a pad", '_', described(Sheet.padded(Sheet.drones(), 0), 0), s -> s.lineAt(0));
           Sheet.answers("a free cell", '.', described(Sheet.drones(), 0), s -> s.lineAt(0));
         });
     Sheet.sentence(
@@ -194,7 +184,7 @@ final class LineSentences {
         "Returns the bits.",
         () -> {
           Sheet.answers("of 100", 0x42c80000, Sheet.drones(0), DroneLightShow::meanBatteryBits);
-          Sheet.Setup low = padded(Sheet.flyingWith(0, 6), 63);
+          Sheet.Setup low = Sheet.padded(Sheet.flyingWith(0, 6), 63);
           int[] want = {0x40c00000, 0x40a00000, 0x40400000, 0x3f800000, 0, 0};
           for (int ticks = 0; ticks < want.length; ticks++) {
             int count = ticks;
@@ -211,13 +201,13 @@ final class LineSentences {
           Sheet.answers("one drone", 0x42c80000, Sheet.drones(63), DroneLightShow::meanBatteryBits);
           Sheet.Setup undone = Sheet.with(Sheet.drones(63), DroneLightShow::undo);
           Sheet.refused("none after undo", Sheet.ARITHMETIC, undone, DroneLightShow::meanBatteryBits);
-          Sheet.refused("pads alone", Sheet.ARITHMETIC, padded(Sheet.drones(), 0), DroneLightShow::meanBatteryBits);
+          Sheet.refused("pads alone", Sheet.ARITHMETIC, Sheet.padded(Sheet.drones(), 0), DroneLightShow::meanBatteryBits);
         });
   }
 
   /** Of two drones far from the pad, one runs out a tick before the other: a mean of a half. */
   private static void smallestMeans() {
-    DroneLightShow show = padded(Sheet.flying(0, 8), 63).make();
+    DroneLightShow show = Sheet.padded(Sheet.flying(0, 8), 63).make();
     show.setReserve(5);
     show.sendTo(1, 9);
     Sheet.ticks(show, 94);
@@ -277,7 +267,7 @@ final class LineSentences {
           Sheet.refused("flying without a target", Sheet.ARITHMETIC, Sheet.flying(0, 9), DroneLightShow::meanDistance);
           Sheet.Setup one = Sheet.with(Sheet.flying(0, 9), s -> s.sendTo(1, 10));
           Sheet.answers("one with a target", 1.0, one, DroneLightShow::meanDistance);
-          Sheet.Setup landed = Sheet.with(padded(one, 9), s -> s.land(1));
+          Sheet.Setup landed = Sheet.with(Sheet.padded(one, 9), s -> s.land(1));
           Sheet.refused("it has landed", Sheet.ARITHMETIC, landed, DroneLightShow::meanDistance);
           Sheet.refused("undone", Sheet.ARITHMETIC, Sheet.with(one, DroneLightShow::undo), DroneLightShow::meanDistance);
         });
@@ -312,11 +302,11 @@ final class LineSentences {
         "Returns whether all of them hold.",
         () -> {
           Sheet.answers("a new show", true, Sheet.drones(), DroneLightShow::isConsistent);
-          Sheet.answers("pads, no drones", true, padded(Sheet.drones(), 0, 63), DroneLightShow::isConsistent);
+          Sheet.answers("pads, no drones", true, Sheet.padded(Sheet.drones(), 0, 63), DroneLightShow::isConsistent);
           Sheet.answers("drones, no pads", true, Sheet.flying(0, 63), DroneLightShow::isConsistent);
-          Sheet.Setup full = padded(Sheet.flying(Sheet.row(10)), 0, 7, 56, 63);
+          Sheet.Setup full = Sheet.padded(Sheet.flying(Sheet.row(10)), 0, 7, 56, 63);
           Sheet.answers("a full show", true, full, DroneLightShow::isConsistent);
-          Sheet.answers("on the ground", true, padded(Sheet.drones(Sheet.row(10)), 0, 63), DroneLightShow::isConsistent);
+          Sheet.answers("on the ground", true, Sheet.padded(Sheet.drones(Sheet.row(10)), 0, 63), DroneLightShow::isConsistent);
         });
   }
 }

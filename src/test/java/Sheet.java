@@ -237,15 +237,7 @@ final class Sheet {
 
   /** A drone in the cell, with the battery 30, in an emergency that has just begun. */
   static Setup emergency(int cell, int... pads) {
-    return with(
-        flying(cell),
-        show -> {
-          for (int pad : pads) {
-            show.addPad(pad);
-          }
-          show.setReserve(30);
-          ticks(show, 70);
-        });
+    return after(70, with(padded(flying(cell), pads), show -> show.setReserve(30)));
   }
 
   static void ticks(DroneLightShow show, int count) {
@@ -267,6 +259,20 @@ final class Sheet {
 
   static Setup typed(String text) {
     return with(DroneLightShow::new, show -> type(show, text));
+  }
+
+  static Setup padded(Setup setup, int... pads) {
+    return with(
+        setup,
+        show -> {
+          for (int pad : pads) {
+            show.addPad(pad);
+          }
+        });
+  }
+
+  static Setup after(int ticks, Setup setup) {
+    return with(setup, show -> ticks(show, ticks));
   }
 
   /** Gives a show a line, an error position, a failed command and a snapshot. */
